@@ -82,7 +82,7 @@ public final class PromiseTests {
         String eight = two + two + two + two;
         Object[][] rows = {
             {"", NONE}, {b, NONE}, {"w1;", NONE}, {"w99;", NONE}, {"w0;", 0}, {"w00;", 0},
-            {"w09;", NONE}, {"w100;", 0}, {"w;", 0}, {"w1", 0}, {"w1,2;", 0}, {"w1,;", 0},
+            {"w09;", NONE}, {"w100;", 0}, {"w009;", 0}, {"b001,1,0,0;", 0}, {"w;", 0}, {"w1", 0}, {"w1,2;", 0}, {"w1,;", 0},
             {"w 1;", 0}, {" w1;", 0}, {"w1; ", 3}, {"w1;;", 3}, {"W1;", 0}, {"w-1;", 0},
             {"b9,9,3,30;", NONE}, {"b09,09,03,30;", NONE}, {"b10,1,0,0;", 0}, {"b0,1,0,0;", 0},
             {"b1,0,0,0;", 0}, {"b1,10,0,0;", 0}, {"b1,1,4,0;", 0}, {"b1,1,0,31;", 0},
@@ -95,6 +95,7 @@ public final class PromiseTests {
             {two + b + "a0,1,2;", NONE}, {two + b + "a0,1,2;a2,1,0;", NONE},
             {two + b + "a0,1,2;a2,1,0;a0,1,2;", 41}, {two + b + "a0,1,1;", 27},
             {two + b + "a0,1,0;", 27}, {two + b + "a1,1,0;", 27}, {two + "a0,1,2;", 18},
+            {two + b + "a3,0,1;", 27}, {two + b + "a0,3,1;", 27}, {two + b + "a0,1,3;", 27},
             {two + b + "a0,1;", 27}, {b + "s0;s0;s0;", NONE}, {b + "s1;", 9}, {"s0;", 0},
             {b + "v0,1;v0,8;", NONE}, {b + "v0,0;", 9}, {b + "v0,9;", 9}, {b + "v1,1;", 9},
             {b + "y0,0;y0,99;", NONE}, {b + "y1,1;", 9}, {b + "y0,100;", 9}, {b + "x0;", 9},
@@ -103,6 +104,17 @@ public final class PromiseTests {
         for (Object[] row : rows) {
             due("fault() of " + row[0], written((String) row[0]).fault(), (Integer) row[1]);
         }
+        due("fault() of 200 letters", written("w1;".repeat(66) + "w1").fault(), 198);
+        due("fault() of 200 letters", written("w1;".repeat(66) + "ww").fault(), 198);
+        due("fault() of 199 letters", written("w1;".repeat(65) + "w12;").fault(), NONE);
+        // Letters that were wiped are gone.
+        CrossedFirst x = written("w12;w3;");
+        for (String text : new String[] {"w", "w1", "w12"}) {
+            rewrite(x, text);
+            due("fault() of " + text + " behind a wipe", x.fault(), 0);
+        }
+        rewrite(x, "w12;");
+        due("fault() of w12; behind a wipe", x.fault(), NONE);
     }
 
     static void lay() {
@@ -198,6 +210,7 @@ public final class PromiseTests {
         String raft = "b9,1,1,0;b8,1,2,2;b3,1,3,1;b1,9,0,0;w60;c0,2;a2,0,1;r3,1;";
         whereRow(raft, 2, 0, 0, 0, 4, 8, 12, 16, 20);
         whereRow(raft, 3, 0, 0, 0, 4, 8, 12, 16, 20);
+        whereRow("b9,1,0,0;b8,1,0,0;b3,1,0,0;w60;a2,0,1;", 1, 0, 6, 12, 18);
         CrossedFirst x = laid("b5,1,0,1;w12;");
         due("where(0, 200)", x.where(0, 200), 12);
         due("where(0, 201)", x.where(0, 201), BAD);
@@ -297,6 +310,31 @@ public final class PromiseTests {
             due("beast(1, 3)", x.beast(1, 3), 11 + left);
         }
         due("undo() of the ninth", x.undo(), NO);
+        undoMixed();
+    }
+
+    /** Ten changes of several beasts: the two oldest stay. */
+    static void undoMixed() {
+        CrossedFirst x = laid("b5,1,0,3;b4,1,0,4;b4,1,0,5;b4,1,0,6;");
+        x.start(0, 7);
+        x.ride(1, 2);
+        x.ride(0, 3);
+        x.start(2, 8);
+        x.leave(1);
+        x.ride(0, 2);
+        x.start(3, 9);
+        x.ride(1, 3);
+        x.leave(0);
+        x.start(1, 10);
+        for (int left = 7; left >= 0; left--) {
+            due("undo() of mixed", x.undo(), left);
+        }
+        int[] starts = {7, 4, 5, 6};
+        int[] carriers = {NONE, 2, NONE, NONE};
+        for (int i = 0; i < 4; i++) {
+            due("mixed: beast(" + i + ", 3)", x.beast(i, 3), starts[i]);
+            due("mixed: beast(" + i + ", 4)", x.beast(i, 4), carriers[i]);
+        }
     }
 
     static void late() {
@@ -371,6 +409,11 @@ public final class PromiseTests {
         CrossedFirst y = laid("b9,1,0,0;b1,1,0,0;b1,1,0,0;r1,0;r2,0;s2;");
         due("bridge(-1) with riders", y.bridge(-1), 4);
         due("bridge(2) with riders", y.bridge(2), 99);
+        // 0 is at 98 in minute 14, 1 at 99.
+        CrossedFirst z = laid("b7,1,0,0;b9,1,0,3;");
+        due("bridge(-1) of the widest", z.bridge(-1), 3);
+        due("bridge(1) of the widest", z.bridge(1), 1);
+        due("bridge(0) of the widest", z.bridge(0), 98);
     }
 
     static void calm() {
