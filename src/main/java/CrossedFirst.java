@@ -22,6 +22,8 @@ public final class CrossedFirst {
     // A raft moves like a beast of a kind of its own, which no text can tell.
     private static final int RAFT = 4;
     private static final int NOBODY_RIDES = 64;
+    // More ranks than all beasts can be off together.
+    private static final int FARTHER_OFF = MOST_BEASTS * MOST_BEASTS;
     private static final String FIRST_TEXT =
             "b3,1,1,0;b5,8,0,2;b7,6,2,0;b4,3,3,0;b6,4,0,1;b2,2,0,0;w40;c0,1;c8,2;r0,1;a3,4,5;s5;s0;v0,1;v2,1;v1,3;y0,12;y1,30;y2,7;";
 
@@ -972,7 +974,7 @@ public final class CrossedFirst {
             least[all] = 0;
             for (int given = all - 1; given >= 0; given--) {
                 int rank = Integer.bitCount(given) + 1;
-                int best = Integer.MAX_VALUE;
+                int best = FARTHER_OFF;
                 for (int i = 0; i < river.beasts; i++) {
                     if ((given & 1 << i) == 0) {
                         best = Math.min(best, off(river, i, rank) + least[given | 1 << i]);

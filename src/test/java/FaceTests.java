@@ -71,8 +71,29 @@ public final class FaceTests {
                 && Modifier.isPublic(made[0].getModifiers()), "one public constructor");
     }
 
+    /** What the interface says ahead of the calls, and the calls, stand in the document's order. */
+    static void groups(String text) {
+        String[] marks = {"write rivers", "start changes", "late what would be", "calm ranks",
+            "odds floods, riders", "keep kept"};
+        int at = 0;
+        for (String method : METHODS) {
+            String name = method.substring(0, method.indexOf(' '));
+            for (String mark : marks) {
+                if (mark.startsWith(name + " ")) {
+                    int next = text.indexOf("// ---- " + mark.substring(name.length() + 1), at);
+                    check(next >= 0, "what stands ahead of " + name);
+                    at = Math.max(at, next);
+                }
+            }
+            int next = text.indexOf("public int " + name + "(", at);
+            check(next >= 0, "the place of " + name);
+            at = Math.max(at, next);
+        }
+    }
+
     static void source() throws IOException {
         String text = Files.readString(Path.of("src/main/java/CrossedFirst.java"));
+        groups(text);
         String code = text.replaceAll("(?s)/\\*.*?\\*/", "").replaceAll("//[^\n]*", "")
                 .replaceAll("\"[^\"]*\"", "\"\"");
         Matcher m = Pattern.compile("\\b(throw|throws|try|catch|synchronized|assert|import|package"

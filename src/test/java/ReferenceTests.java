@@ -562,8 +562,13 @@ public final class ReferenceTests {
     static int wrong = 0;
     static final int[] calls = new int[NAMES.length];
     static final StringBuilder trail = new StringBuilder();
+    /** What an object answers behind this many calls is free. */
+    static final int MOST_CALLS = 512;
+    static int made = 0;
 
-    static int both(CrossedFirst x, Model y, int what, int... args) {
+    static void both(CrossedFirst x, Model y, int what, int... args) {
+        if (made == MOST_CALLS) return;
+        made++;
         int[] a = Arrays.copyOf(args, 4);
         int got = call(x, what, a[0], a[1], a[2], a[3]);
         int due = y.call(what, a[0], a[1], a[2], a[3]);
@@ -572,7 +577,6 @@ public final class ReferenceTests {
         if (got != due && wrong++ < 5) {
             System.out.println(trail + "answered " + got + ", text " + y.text);
         }
-        return due;
     }
 
     static String number(Random r, int low, int high) {
@@ -678,6 +682,7 @@ public final class ReferenceTests {
         CrossedFirst x = new CrossedFirst();
         Model y = new Model();
         trail.setLength(0);
+        made = 0;
         int rounds = 1 + r.nextInt(4);
         for (int round = 0; round < rounds; round++) {
             if (r.nextInt(5) > 0) {
