@@ -1,4 +1,5 @@
 import java.io.IOException;
+import java.lang.reflect.InvocationTargetException;
 import java.lang.reflect.Method;
 import java.math.BigInteger;
 import java.nio.file.Files;
@@ -20,6 +21,8 @@ public final class SentenceTests {
     static final Path DOCUMENT = Path.of("../shared/DOC.md");
     static final int MOST_CALLS = 512;
     static final int UNDO = 8;
+    /** In place of an answer that was never given. */
+    static final int THREW = 123456789;
     /** The plainest beast. */
     static final String B = "b1,1,0,0;";
 
@@ -72,6 +75,9 @@ public final class SentenceTests {
             }
             try {
                 return (Integer) CALLS.get(name).invoke(x, (Object[]) args);
+            } catch (InvocationTargetException e) {
+                fail(trail + name + Arrays.toString(args) + " threw " + e.getCause());
+                return THREW;
             } catch (ReflectiveOperationException e) {
                 throw new IllegalStateException(name + Arrays.toString(args), e);
             }
@@ -526,6 +532,7 @@ public final class SentenceTests {
             laid("b4,1,0,0;b1,1,2,6;w60;c0,2;r1,0;").due("where 0 5..6", 10, 12)
                     .due("where 0 10..11", 20, 24);
             laid("b4,1,0,0;b1,1,2,30;b1,1,2,0;w60;c0,2;").due("where 0 5..6", 10, 14);
+            laid("b4,1,0,0;b1,1,2,0;b1,1,2,30;w60;c0,2;").due("where 0 5..6", 10, 14);
             laid("b4,1,0,0;b1,1,2,30;w99;c0,2;").due("where 0 26..27", 52, 54)
                     .due("where 0 30..31", 60, 64);
             laid("b4,1,0,0;b1,1,2,0;w60;c0,2;").due("start 1 6", 0).due("where 0 5..6", 10, 12);
@@ -649,7 +656,8 @@ public final class SentenceTests {
         });
         say("A START can be changed;", () ->
             laid("b5,1,0,0;b4,1,0,0;w20;").due("who 1..2", 0, 1).due("start 0 3", 0)
-                    .due("beast 0 3", 3).due("lands 0", 7).due("who 1..2", 1, 0));
+                    .due("beast 0 3", 3).due("lands 0", 7).due("who 1..2", 1, 0)
+                    .due("start 0 0", 3).due("beast 0 3", 0).due("who 1..2", 0, 1));
         say("one can RIDE on another one, or leave it.", () ->
             laid("b5,1,0,0;b1,1,0,0;w20;").due("lands 1", 20).due("ride 1 0", NONE)
                     .due("lands 1", 4).due("who 1..2", 1, 0).due("leave 1", 0).due("lands 1", 20)
@@ -751,6 +759,7 @@ public final class SentenceTests {
             laid("b1,1,1,0;b1,9,2,0;b1,9,0,0;r1,0;").due("twos", 1);
             laid("b1,1,1,0;b1,9,2,0;b1,1,1,0;r0,1;r2,1;").due("twos", 1);
             laid("b1,1,1,0;b1,9,2,0;b1,9,0,0;b1,9,0,0;a1,2,3;").due("twos", 0);
+            laid("b1,1,1,0;b1,1,0,0;b1,1,0,0;b1,9,0,0;a0,1,2;").due("twos", 0);
             laid("b1,1,1,0;b1,9,2,0;b1,9,0,0;b1,1,1,0;b1,9,0,0;a0,1,2;").due("twos", 1);
         });
         say("BRIDGE: BEASTS (bits) that would have RANK 1 over rivers of 1 to 99 yards;", () -> {
@@ -1096,6 +1105,27 @@ public final class SentenceTests {
             }
             refusedWhenFull();
         });
+    }
+
+    /** Calls that only ask, on a rich run: what would be is told, not done. */
+    static void askingChangesNothing() {
+        section = "What is asked for";
+        sentence = "changes nothing";
+        String[] calls = {"fault", "beast 0..5 0..6", "current 1..9", "where 0..5 0..9", "lands 0..5",
+            "rank 0..5", "who 1..6", "late 0..5", "back 0|2 0..1", "twos", "bridge -1..5",
+            "calm 0..1", "order 0..6", "harvest 1..6", "odds 0..5 2 3 0..1", "rides 0..1",
+            "river 0|9999 0..1", "count 0..8"};
+        List<Integer> due = trace(rich());
+        for (String call : calls) {
+            String[] words = call.split(" ");
+            List<Integer[]> ways = new ArrayList<>();
+            choose(words, new Integer[words.length - 1], 0, ways);
+            Run run = rich();
+            for (Integer[] way : ways) run.ask(words[0], way);
+            if (!trace(run).equals(due)) {
+                fail(call);
+            }
+        }
     }
 
     static void refusedWhenFull() {
@@ -1575,6 +1605,7 @@ public final class SentenceTests {
         promisesOfFloods();
         promisesOfKept();
         sentencesAreTheDocument();
+        askingChangesNothing();
         System.out.println(sentences + " sentences, " + (wrong == 0 ? "all answers are as due"
                 : wrong + " answers are not as due"));
         if (wrong != 0) {
