@@ -1,4 +1,5 @@
 import java.io.IOException;
+import java.lang.reflect.Array;
 import java.lang.reflect.Constructor;
 import java.lang.reflect.Field;
 import java.lang.reflect.Method;
@@ -6,6 +7,8 @@ import java.lang.reflect.Modifier;
 import java.nio.file.Files;
 import java.nio.file.Path;
 import java.util.Arrays;
+import java.util.Collections;
+import java.util.IdentityHashMap;
 import java.util.Set;
 import java.util.TreeSet;
 import java.util.regex.Matcher;
@@ -100,6 +103,7 @@ public final class FaceTests {
                 + "|Thread|Random|Exact|equals|hashCode|toString)\\b|->|::|\"\\s*\\+|\\+\\s*\"").matcher(code);
         while (m.find()) check(false, "the source has " + m.group());
         check(text.chars().allMatch(x -> x < 128), "signs of the source");
+        makesNothing(code);
         int in = 0;
         int line = 0;
         for (String row : text.split("\n")) {
@@ -109,9 +113,69 @@ public final class FaceTests {
         }
     }
 
+    /** Where an object or array may be made: a field's initialiser, the constructor, what it calls. */
+    static final Set<String> MAKERS = Set.of("CrossedFirst", "firstRiver");
+
+    /** Behind the constructor nothing is made, so that no run of calls fills the room. */
+    static void makesNothing(String code) {
+        String in = "";
+        for (String row : code.split("\n")) {
+            Matcher method = Pattern.compile(
+                    " {4}(?: {4})?(?:public |private |static )*(?:[\\w\\[\\]]+ )?(\\w+)\\(.*\\{").matcher(row);
+            if (method.matches()) in = method.group(1);
+            if (row.matches(" {4}( {4})?\\}")) in = "";
+            boolean makes = Pattern.compile("\\bnew\\b|\\.clone\\(|\\.toCharArray\\(|\\bcopyOf"
+                    + "|\\bsubstring\\(|\\bStringBuilder\\b|\\bList\\b|\\bvalues\\(").matcher(row).find();
+            check(!makes || in.isEmpty() || MAKERS.contains(in), in + " makes something: " + row);
+            boolean callsMaker = row.contains("firstRiver()") && !row.contains("River firstRiver()");
+            check(!callsMaker || in.equals("CrossedFirst"), in + " makes a river: " + row);
+        }
+    }
+
+    /** Objects and arrays that belong to one, and the fields and elements of these. */
+    static int elements(Object one, Set<Object> met) throws ReflectiveOperationException {
+        if (one == null || !met.add(one)) return 0;
+        if (one.getClass().isArray()) {
+            check(one.getClass().getComponentType().isPrimitive(), "an array of " + one.getClass());
+            return Array.getLength(one);
+        }
+        int sum = 0;
+        for (Field f : one.getClass().getDeclaredFields()) {
+            if (Modifier.isStatic(f.getModifiers())) continue;
+            f.setAccessible(true);
+            sum += 1 + (f.getType().isPrimitive() ? 0 : elements(f.get(one), met));
+        }
+        return sum;
+    }
+
+    /** An object stays as small as it was made, whatever is asked of it. */
+    static void room() throws ReflectiveOperationException {
+        CrossedFirst x = new CrossedFirst();
+        Set<Object> met = Collections.newSetFromMap(new IdentityHashMap<>());
+        int first = elements(x, met);
+        check(met.size() <= 100 && first <= 4000, met.size() + " objects, " + first + " elements");
+        for (char c : "b5,1,0,0;b9,1,1,1;w20;c1,1;r1,0;".toCharArray()) x.write(c);
+        for (int k = 0; k < 3; k++) {
+            x.lay();
+            for (int i = 0; i < 9; i++) {
+                x.start(i % 2, i);
+                x.ride(1, 0);
+                x.seen(0, 1);
+                x.keep();
+                x.odds(0, 5, 5, 0);
+                x.bridge(-1);
+                x.order(1);
+            }
+            x.restore();
+        }
+        Set<Object> later = Collections.newSetFromMap(new IdentityHashMap<>());
+        check(elements(x, later) == first && later.equals(met), "an object grows");
+    }
+
     public static void main(String[] args) throws Exception {
         face();
         source();
+        room();
         System.out.println(wrong == 0 ? "the face is as due" : wrong + " faults of the face");
         if (wrong != 0) System.exit(1);
     }
