@@ -698,7 +698,8 @@ public final class ReferenceTests {
 
     public static void main(String[] args) {
         int runs = args.length > 0 ? Integer.parseInt(args[0]) : 800;
-        for (int seed = 1; seed <= runs; seed++) run(seed);
+        int first = args.length > 1 ? Integer.parseInt(args[1]) : 1;
+        for (int k = 0; k < runs; k++) run(first + k);
         for (int k = 0; k < calls.length; k++) {
             if (calls[k] == 0) {
                 wrong++;
